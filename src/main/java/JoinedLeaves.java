@@ -208,7 +208,8 @@ public final class JoinedLeaves {
         private boolean bind(Relation bound, int x, int y, int z) {
             int second = bound.width > 1 ? y : x;
             int third = bound.width > 2 ? z : x;
-            if (!isBelow(x, VARIABLES) || !isBelow(second, VARIABLES) || !isBelow(third, VARIABLES)) {
+            if (!isBelow(x, VARIABLES) || !isBelow(second, VARIABLES)
+                    || !isBelow(third, VARIABLES)) {
                 return false;
             }
             relation = bound;
@@ -302,7 +303,8 @@ public final class JoinedLeaves {
         }
 
         private boolean putInHead(int variable) {
-            if (!isBelow(variable, VARIABLES) || isIn(variable, headSet) || headSize == MOST_IN_HEAD) {
+            if (!isBelow(variable, VARIABLES) || isIn(variable, headSet)
+                    || headSize == MOST_IN_HEAD) {
                 return false;
             }
             headVariables[headSize] = variable;
@@ -584,7 +586,8 @@ public final class JoinedLeaves {
         private void keepRowsWith(int place, int variable, int value) {
             int[] rowSets = kept[place + 1];
             for (int atom = 0; atom < question.atomCount; atom++) {
-                rowSets[atom] = kept[place][atom] & question.atoms[atom].rowsAllowing(variable, value);
+                int allowing = question.atoms[atom].rowsAllowing(variable, value);
+                rowSets[atom] = kept[place][atom] & allowing;
             }
             keepLiveRows(rowSets);
         }

@@ -28,6 +28,7 @@ public final class PromisesTest {
         ways();
         mostWays();
         repeatedVariables();
+        repeatedVariablesBelowTheRoot();
         live();
         liveFarBelowTheRoot();
         answers();
@@ -389,6 +390,19 @@ public final class PromisesTest {
             heads(x, 0);
             due("answers with repeats", i == 4 ? 2 : 1, x::answers);
         }
+    }
+
+    private static void repeatedVariablesBelowTheRoot() {
+        JoinedLeaves x = withRelations(3, 1);
+        fill(x, 0, 1, 1, 5, 1, 2, 5, 3, 3, 5, 4, 4, 6);
+        fill(x, 1, 5, 0, 0);
+        x.atom(0, 0, 0, 1);
+        x.atom(1, 1, 0, 0);
+        due("hung with repeats", 1, () -> x.parent(0));
+        due("ways, hung with repeats", 2L, x::ways);
+        due("live, hung with repeats", 2, () -> x.live(0));
+        heads(x, 0, 1);
+        dueAnswers("hung with repeats", x, 2, "15", "35");
     }
 
     private static void live() {
