@@ -140,22 +140,14 @@ public final class PlainModelTest {
         }
 
         private boolean same(String call, Supplier<Object> got, Supplier<Object> due) {
-            String gotText = outcome(got);
-            String dueText = outcome(due);
+            String gotText = CallTest.outcome(got);
+            String dueText = CallTest.outcome(due);
             outcomes.merge(dueText.startsWith("throws") ? call + " " + dueText : call, 1, Integer::sum);
             if (!gotText.equals(dueText)) {
                 System.out.println(call + " answered " + gotText + ", due is " + dueText);
                 return false;
             }
             return true;
-        }
-
-        private static String outcome(Supplier<Object> call) {
-            try {
-                return String.valueOf(call.get());
-            } catch (RuntimeException e) {
-                return "throws." + e.getClass().getSimpleName();
-            }
         }
 
         private int relation() {

@@ -1,21 +1,8 @@
-import java.util.function.Supplier;
-
-/** Each promise by hand: ordinary inputs, the edges that the document names, wrong inputs. */
-public final class PromisesTest {
-    private static final int LOW = Integer.MIN_VALUE;
-    private static final int HIGH = Integer.MAX_VALUE;
-    private static final String ISE = "throws.IllegalStateException";
-    private static final String IAE = "throws.IllegalArgumentException";
-    private static final String UOE = "throws.UnsupportedOperationException";
-    private static final String IOOBE = "throws.IndexOutOfBoundsException";
-
-    private static int wrong = 0;
-
+/** Each promise by hand, with ordinary inputs and a few wrong ones among them. */
+public final class PromisesTest extends CallTest {
     public static void main(String[] args) {
-        newObject();
         relation();
         add();
-        addLimits();
         drop();
         rows();
         atom();
@@ -23,100 +10,18 @@ public final class PromisesTest {
         clear();
         treeAndParentAndTurn();
         hangingTakesTheLeastEarAndTheLeastHolder();
-        hangingThatStopsHalfway();
         hangingOfRepeatedAndLonelyAtoms();
         ways();
-        mostWays();
         repeatedVariables();
         repeatedVariablesBelowTheRoot();
         live();
         liveFarBelowTheRoot();
         answers();
-        answersOfAnEmptyHead();
-        sixtyFourAnswersAndMore();
         answer();
         answerOrderFollowsTheHead();
         answersOfManyWays();
-        whichExceptionComesFirst();
-        refusedCallsChangeNothing();
         objectsAreApart();
-        System.out.println(wrong == 0 ? "all promises hold" : wrong + " answers are not as due");
-        if (wrong != 0) {
-            System.exit(1);
-        }
-    }
-
-    private static void due(String call, Object want, Supplier<Object> asked) {
-        String got;
-        try {
-            got = String.valueOf(asked.get());
-        } catch (RuntimeException e) {
-            got = "throws." + e.getClass().getSimpleName();
-        }
-        if (!got.equals(String.valueOf(want))) {
-            wrong++;
-            System.out.println(call + " answered " + got + ", due is " + want);
-        }
-    }
-
-    /** An object with relations of these widths. */
-    private static JoinedLeaves withRelations(int... widths) {
-        JoinedLeaves x = new JoinedLeaves();
-        for (int width : widths) {
-            x.relation(width);
-        }
-        return x;
-    }
-
-    /** Adds rows, each given as three values. */
-    private static void fill(JoinedLeaves x, int relation, int... values) {
-        for (int i = 0; i < values.length; i += 3) {
-            int a = values[i];
-            int b = values[i + 1];
-            int c = values[i + 2];
-            due("add in fill", true, () -> x.add(relation, a, b, c));
-        }
-    }
-
-    /** Adds the rows 0 .. count - 1 to a relation of width 1. */
-    private static void count(JoinedLeaves x, int relation, int count) {
-        for (int i = 0; i < count; i++) {
-            fill(x, relation, i, 0, 0);
-        }
-    }
-
-    private static void heads(JoinedLeaves x, int... variables) {
-        for (int variable : variables) {
-            x.head(variable);
-        }
-    }
-
-    /** Looks at all answers, each of them told as its values without a gap, in hexadecimal. */
-    private static void dueAnswers(String name, JoinedLeaves x, int length, String... want) {
-        due(name + ": answers()", want.length, x::answers);
-        for (int k = 0; k < want.length; k++) {
-            for (int i = 0; i < length; i++) {
-                int place = k;
-                int value = i;
-                int digit = Character.digit(want[k].charAt(i), 16);
-                due(name + ": answer(" + k + ", " + i + ")", digit, () -> x.answer(place, value));
-            }
-        }
-    }
-
-    private static void newObject() {
-        JoinedLeaves x = new JoinedLeaves();
-        due("new: rows(0)", -1, () -> x.rows(0));
-        due("new: parent(0)", -1, () -> x.parent(0));
-        due("new: turn(0)", -1, () -> x.turn(0));
-        due("new: tree()", true, x::tree);
-        due("new: ways()", 1L, x::ways);
-        due("new: live(0)", IOOBE, () -> x.live(0));
-        due("new: answers()", 1, x::answers);
-        due("new: answer(0, 0)", IOOBE, () -> x.answer(0, 0));
-        due("new: clear()", 0, x::clear);
-        due("new: head(7)", 0, () -> x.head(7));
-        due("new: answers() with a head", IAE, x::answers);
+        end("all promises hold");
     }
 
     private static void relation() {
@@ -161,17 +66,6 @@ public final class PromisesTest {
         due("width 3, last value differs", true, () -> x.add(2, 0, 15, 15));
         due("width 3, first value differs", true, () -> x.add(2, 15, 15, 0));
         due("rows", "123", () -> "" + x.rows(0) + x.rows(1) + x.rows(2));
-    }
-
-    private static void addLimits() {
-        JoinedLeaves x = withRelations(1, 1);
-        count(x, 0, 12);
-        due("the 13th row", false, () -> x.add(0, 12, 0, 0));
-        due("rows of the full one", 12, () -> x.rows(0));
-        due("another relation", true, () -> x.add(1, 12, 0, 0));
-        due("make place", true, () -> x.drop(0, 3, 0, 0));
-        due("the 12th row again", true, () -> x.add(0, 12, 0, 0));
-        due("the dropped one", false, () -> x.add(0, 3, 0, 0));
     }
 
     private static void drop() {
@@ -279,15 +173,6 @@ public final class PromisesTest {
         dueAnswers("after clear()", x, 1, "2");
     }
 
-    private static void dueHanging(String name, JoinedLeaves x, boolean tree, int[] parents, int[] turns) {
-        due(name + ": tree()", tree, x::tree);
-        for (int i = 0; i < parents.length; i++) {
-            int atom = i;
-            due(name + ": parent(" + i + ")", parents[i], () -> x.parent(atom));
-            due(name + ": turn(" + i + ")", turns[i], () -> x.turn(atom));
-        }
-    }
-
     private static void treeAndParentAndTurn() {
         JoinedLeaves x = withRelations(2);
         x.atom(0, 0, 1, 0);
@@ -320,17 +205,6 @@ public final class PromisesTest {
         dueHanging("same variables", same, true, new int[] {2, 2, 3, -1}, new int[] {0, 1, 2, -1});
     }
 
-    private static void hangingThatStopsHalfway() {
-        JoinedLeaves x = withRelations(2);
-        x.atom(0, 0, 1, 0);
-        x.atom(0, 3, 4, 0);
-        x.atom(0, 1, 2, 0);
-        x.atom(0, 2, 3, 0);
-        x.atom(0, 2, 0, 0);
-        dueHanging("a ring with a tail", x, false,
-                new int[] {-1, 3, -1, 2, -1}, new int[] {-1, 0, -1, 1, -1});
-    }
-
     private static void hangingOfRepeatedAndLonelyAtoms() {
         JoinedLeaves x = withRelations(1, 2);
         x.atom(0, 0, 1, 1);
@@ -361,19 +235,6 @@ public final class PromisesTest {
         due("after a drop", 6L, x::ways);
         x.clear();
         due("no atoms", 1L, x::ways);
-    }
-
-    private static void mostWays() {
-        JoinedLeaves x = withRelations(1);
-        count(x, 0, 12);
-        for (int i = 0; i < 6; i++) {
-            x.atom(0, i, 0, 0);
-        }
-        due("12 to the 6th", 2985984L, x::ways);
-        due("live", 12, () -> x.live(3));
-        due("an empty head", 1, x::answers);
-        heads(x, 0, 1, 2, 3);
-        due("too many", UOE, x::answers);
     }
 
     private static void repeatedVariables() {
@@ -466,41 +327,6 @@ public final class PromisesTest {
         due("no way", IOOBE, () -> x.answer(0, 0));
     }
 
-    private static void answersOfAnEmptyHead() {
-        JoinedLeaves x = withRelations(1);
-        x.atom(0, 0, 0, 0);
-        due("no way", 0, x::answers);
-        due("no way", IOOBE, () -> x.answer(0, 0));
-        count(x, 0, 3);
-        due("some way", 1, x::answers);
-        due("an answer without values", IOOBE, () -> x.answer(0, 0));
-    }
-
-    private static void sixtyFourAnswersAndMore() {
-        JoinedLeaves x = withRelations(2, 2);
-        for (int i = 0; i < 8; i++) {
-            fill(x, 0, 0, i, 0);
-            fill(x, 1, 0, i, 0);
-        }
-        x.atom(0, 0, 1, 0);
-        x.atom(1, 0, 2, 0);
-        heads(x, 1, 2);
-        due("64", 64, x::answers);
-        due("the last of 64", 7, () -> x.answer(63, 0));
-        due("the last of 64", 7, () -> x.answer(63, 1));
-        due("behind the last", IOOBE, () -> x.answer(64, 0));
-        fill(x, 0, 1, 8, 0);
-        due("a row that is not live", 64, x::answers);
-        fill(x, 1, 1, 8, 0);
-        due("65 ways", 65L, x::ways);
-        due("65", UOE, x::answers);
-        due("65", UOE, () -> x.answer(0, 0));
-        x.drop(0, 0, 7, 0);
-        due("57", 57, x::answers);
-        due("the last of 57", 8, () -> x.answer(56, 0));
-        due("the last of 57", 8, () -> x.answer(56, 1));
-    }
-
     private static void answer() {
         JoinedLeaves x = withRelations(2, 1);
         fill(x, 0, 15, 0, 0, 2, 9, 0, 2, 3, 0, 0, 15, 0);
@@ -552,54 +378,6 @@ public final class PromisesTest {
         due("many ways", 3L * 12 * 12 * 12 * 12, x::ways);
         heads(x, 5);
         dueAnswers("few answers", x, 1, "1", "3");
-    }
-
-    private static void whichExceptionComesFirst() {
-        JoinedLeaves x = withRelations(2, 1);
-        count(x, 1, 12);
-        x.atom(1, 3, 0, 0);
-        x.atom(1, 4, 0, 0);
-        heads(x, 3, 4);
-        due("too many, and no such value", UOE, () -> x.answer(-1, -1));
-        x.head(7);
-        due("unbound before too many", IAE, x::answers);
-        due("unbound before no such value", IAE, () -> x.answer(-1, -1));
-        x.atom(0, 0, 1, 0);
-        x.atom(0, 1, 2, 0);
-        x.atom(0, 2, 0, 0);
-        due("no tree before unbound", ISE, x::answers);
-        due("no tree before all", ISE, () -> x.answer(-1, -1));
-        due("no tree before no such atom", ISE, () -> x.live(-1));
-        due("no tree before no such atom", ISE, () -> x.live(6));
-        due("no tree", ISE, () -> x.live(0));
-        due("no tree", ISE, x::ways);
-        due("tree() does not throw", false, x::tree);
-    }
-
-    private static void refusedCallsChangeNothing() {
-        JoinedLeaves x = withRelations(2);
-        fill(x, 0, 1, 2, 0, 2, 1, 0);
-        x.atom(0, 0, 1, 0);
-        heads(x, 1);
-        x.relation(9);
-        x.add(0, 1, 2, 9);
-        x.add(0, 3, 16, 0);
-        x.drop(0, 3, 3, 0);
-        x.drop(1, 1, 2, 0);
-        x.atom(0, 1, 8, 0);
-        x.atom(1, 1, 1, 1);
-        x.head(1);
-        x.head(-1);
-        due("a throw", IOOBE, () -> x.live(1));
-        due("a throw", IOOBE, () -> x.answer(2, 0));
-        due("rows(0)", 2, () -> x.rows(0));
-        due("rows(1)", -1, () -> x.rows(1));
-        due("ways()", 2L, x::ways);
-        dueAnswers("after refusals", x, 1, "1", "2");
-        due("the next place", 1, () -> x.head(0));
-        dueAnswers("with the next place", x, 2, "12", "21");
-        due("the next atom", 1, () -> x.atom(0, 1, 0, 0));
-        due("the next relation", 1, () -> x.relation(3));
     }
 
     private static void objectsAreApart() {
