@@ -69,8 +69,10 @@ public final class PromisesEdgeTest extends CallTest {
 
     private static void promise14() {
         answersOfAnEmptyHead();
+        answersWhenEachAtomHasRowsButThereIsNoWay();
         noAnswerAndOneAnswer();
         answersWhenAVariableOfTheHeadIsInNoAtom();
+        answersWhenEachVariableInTurnIsInNoAtom();
         answersOfNoTree();
         sixtyFourAnswers();
         sixtyFiveAnswersAreTooMany();
@@ -566,21 +568,12 @@ public final class PromisesEdgeTest extends CallTest {
         due("live of the root", 12, () -> y.live(5));
     }
 
-    private static JoinedLeaves ringOfThree() {
-        JoinedLeaves x = withRelations(2);
-        fill(x, 0, 1, 1, 0);
-        x.atom(0, 0, 1, 0);
-        x.atom(0, 1, 2, 0);
-        x.atom(0, 2, 0, 0);
-        return x;
-    }
-
     private static void waysOfNoTree() {
-        JoinedLeaves x = ringOfThree();
-        due("ways() of a ring", ISE, x::ways);
-        due("ways() of a ring again", ISE, x::ways);
-        x.drop(0, 1, 1, 0);
+        JoinedLeaves x = ring();
         due("ways() of a ring without rows", ISE, x::ways);
+        fill(x, 0, 1, 1, 0);
+        due("ways() of a ring with a row", ISE, x::ways);
+        due("ways() of a ring again", ISE, x::ways);
     }
 
     // Promise 13: "How many rows of an atom's relation are live for it. IllegalStateException:
@@ -615,7 +608,7 @@ public final class PromisesEdgeTest extends CallTest {
     }
 
     private static void liveOfNoTree() {
-        JoinedLeaves x = ringOfThree();
+        JoinedLeaves x = ring();
         for (int atom : new int[] {0, 1, 2, 3, -1, 6, LOW, HIGH}) {
             due("live(" + atom + ") of a ring", ISE, () -> x.live(atom));
         }
@@ -639,6 +632,20 @@ public final class PromisesEdgeTest extends CallTest {
         due("with 64 ways", 1, x::answers);
         fill(x, 0, 7, 0, 0);
         due("with 729 ways", 1, x::answers);
+    }
+
+    private static void answersWhenEachAtomHasRowsButThereIsNoWay() {
+        JoinedLeaves x = withRelations(1, 1);
+        fill(x, 0, 5, 0, 0);
+        fill(x, 1, 6, 0, 0);
+        x.atom(0, 0, 0, 0);
+        x.atom(1, 0, 0, 0);
+        due("of an empty head", 0, x::answers);
+        x.head(0);
+        due("of a head of one", 0, x::answers);
+        due("the first one", IOOBE, () -> x.answer(0, 0));
+        fill(x, 1, 5, 0, 0);
+        dueAnswers("with a way", x, 1, "5");
     }
 
     private static void noAnswerAndOneAnswer() {
@@ -667,8 +674,22 @@ public final class PromisesEdgeTest extends CallTest {
         dueAnswers("with a way", x, 2, "54");
     }
 
+    private static void answersWhenEachVariableInTurnIsInNoAtom() {
+        for (int i = 0; i < 8; i++) {
+            JoinedLeaves x = withRelations(1);
+            fill(x, 0, 9, 0, 0);
+            int variable = i;
+            x.atom(0, (variable + 1) % 8, 0, 0);
+            x.head(variable);
+            due("without variable " + i, IAE, x::answers);
+            due("without variable " + i, IAE, () -> x.answer(0, 0));
+            x.atom(0, variable, 0, 0);
+            dueAnswers("with variable " + i, x, 1, "9");
+        }
+    }
+
     private static void answersOfNoTree() {
-        JoinedLeaves x = ringOfThree();
+        JoinedLeaves x = ring();
         due("of an empty head", ISE, x::answers);
         x.head(0);
         due("of a head", ISE, x::answers);
@@ -828,7 +849,7 @@ public final class PromisesEdgeTest extends CallTest {
     }
 
     private static void answerWhenAnswersThrows() {
-        JoinedLeaves ring = ringOfThree();
+        JoinedLeaves ring = ring();
         ring.head(0);
         JoinedLeaves unbound = product(1);
         unbound.head(7);

@@ -22,6 +22,7 @@ public final class TermsEdgeTest extends CallTest {
         all8VariablesInOneQuestion();
         variablesBeyondTheWidthAreNotLookedAt();
         theSameVariableMoreThanOnce();
+        theSameVariableMoreThanOnceIsShared();
         theSameVariableMoreThanOnceInAHungAtom();
         withoutAtomsThereIsOneWay();
         eachRowIsOneAnswerHoweverManyWays();
@@ -323,6 +324,21 @@ public final class TermsEdgeTest extends CallTest {
             x.atom(atom[0], atom[1], atom[2], atom[3]);
             due("ways when a row fits all", want[i] + 1L, x::ways);
             due("live when a row fits all", want[i] + 1, () -> x.live(0));
+            x.head(6);
+            due("the greatest value", 5, () -> x.answer(x.answers() - 1, 0));
+        }
+    }
+
+    private static void theSameVariableMoreThanOnceIsShared() {
+        int[][] atoms = {{6, 6, 0}, {6, 0, 6}, {0, 6, 6}, {6, 6, 6}};
+        for (int[] atom : atoms) {
+            JoinedLeaves x = withRelations(3, 2);
+            x.atom(0, atom[0], atom[1], atom[2]);
+            x.atom(1, 1, 2, 0);
+            x.atom(1, 6, 1, 0);
+            // Were variable 6 not the atom's, the least other one would do.
+            dueHanging("a repeated variable is shared", x, true,
+                    new int[] {2, 2, -1}, new int[] {0, 1, -1});
         }
     }
 
@@ -478,15 +494,6 @@ public final class TermsEdgeTest extends CallTest {
     }
 
     // "When several exceptions would do that a call names, the one named first is thrown"
-
-    /** A ring of three atoms, made by four calls: no tree. */
-    private static JoinedLeaves ring() {
-        JoinedLeaves x = withRelations(2);
-        x.atom(0, 0, 1, 0);
-        x.atom(0, 1, 2, 0);
-        x.atom(0, 2, 0, 0);
-        return x;
-    }
 
     private static void theFirstNamedExceptionOfLive() {
         JoinedLeaves x = ring();

@@ -44,6 +44,15 @@ abstract class CallTest {
         return x;
     }
 
+    /** A ring of three atoms, made by four calls: no tree. */
+    static JoinedLeaves ring() {
+        JoinedLeaves x = withRelations(2);
+        x.atom(0, 0, 1, 0);
+        x.atom(0, 1, 2, 0);
+        x.atom(0, 2, 0, 0);
+        return x;
+    }
+
     /** Adds rows, each given as three values. */
     static void fill(JoinedLeaves x, int relation, int... values) {
         for (int i = 0; i < values.length; i += 3) {
