@@ -1,38 +1,25 @@
-import java.io.IOException;
+import com.sun.management.ThreadMXBean;
+import java.lang.management.ManagementFactory;
 import java.lang.reflect.Array;
 import java.lang.reflect.Field;
 import java.lang.reflect.Method;
 import java.lang.reflect.Modifier;
-import java.nio.file.Files;
-import java.nio.file.Path;
 import java.util.ArrayList;
 import java.util.Collections;
 import java.util.HashSet;
 import java.util.IdentityHashMap;
 import java.util.List;
 import java.util.Set;
-import java.util.regex.Matcher;
-import java.util.regex.Pattern;
 
-/** What can be looked up of the rules of LANGUAGE.md, in the class and in its source. */
+/** What can be looked up of the rules of LANGUAGE.md in the class and its objects. */
 public final class LanguageTest extends CallTest {
-    private static final Path SOURCE = Path.of("src/main/java/JoinedLeaves.java");
-    private static final Pattern RULED_OUT = Pattern.compile("->|::"
-            + "|\\b(try|catch|finally|synchronized|assert|import|package|protected|System|Thread|Runtime|Object"
-            + "|toString|hashCode|equals|getClass|float|double)\\b");
-    private static final Pattern THROWN = Pattern.compile("throw (?!new (IllegalStateException"
-            + "|IllegalArgumentException|IndexOutOfBoundsException|UnsupportedOperationException)"
-            + "\\((\"[^\"]*\")?\\);)");
-
-    public static void main(String[] args) throws IOException {
+    public static void main(String[] args) {
         noPrivateMethodBearsTheNameOfAPublicOne();
         classesInsideArePrivateAndStatic();
         staticFieldsAreFinal();
         nothingIsTooLarge();
-        String code = withoutComments(Files.readString(SOURCE));
-        due("what is ruled out", new ArrayList<>(), () -> foundIn(code, RULED_OUT));
-        due("throws of another form", new ArrayList<>(), () -> foundIn(code, THROWN));
         whatIsKeptDoesNotGrow();
+        callsMakeNoObjects();
         end("the rules that can be looked up are kept");
     }
 
@@ -88,36 +75,60 @@ public final class LanguageTest extends CallTest {
         }
     }
 
-    private static String withoutComments(String source) {
-        return source.replaceAll("(?s)/\\*.*?\\*/", "").replaceAll("//[^\n]*", "");
-    }
-
-    private static List<String> foundIn(String code, Pattern pattern) {
-        List<String> found = new ArrayList<>();
-        Matcher matcher = pattern.matcher(code);
-        while (matcher.find()) {
-            int end = code.indexOf('\n', matcher.start());
-            found.add(code.substring(matcher.start(), end));
-        }
-        return found;
-    }
-
     /** All calls of a run share one room: what an object keeps is made once, by its constructor. */
     private static void whatIsKeptDoesNotGrow() {
         JoinedLeaves x = new JoinedLeaves();
         int before = placesOf(x);
         due("few places are kept", true, () -> before < 1000);
+        callAll(x);
+        due("places kept after many calls", before, () -> placesOf(x));
+    }
+
+    /** The first round lets the machine load what it needs; the second one is measured. */
+    private static void callsMakeNoObjects() {
+        ThreadMXBean thread = (ThreadMXBean) ManagementFactory.getThreadMXBean();
+        long made = 0;
+        for (int round = 0; round < 2; round++) {
+            JoinedLeaves x = new JoinedLeaves();
+            long before = thread.getCurrentThreadAllocatedBytes();
+            callAll(x);
+            made = thread.getCurrentThreadAllocatedBytes() - before;
+        }
+        long bytes = made;
+        // Were each call of one kind to make but one object, its bytes would be more than these.
+        due("bytes made by some 300 calls", true, () -> bytes < 96);
+    }
+
+    /** Makes some 300 calls, of every kind, none of which throws. */
+    private static void callAll(JoinedLeaves x) {
         for (int i = 0; i < 6; i++) {
             x.relation(i % 3 + 1);
-            count(x, i, 12);
-            x.atom(i, i, i + 1, i + 1);
+            for (int value = 0; value < 12; value++) {
+                x.add(i, value, value + 1, value + 2);
+            }
+            x.drop(i, 0, 1, 2);
+            x.rows(i);
         }
-        heads(x, 0, 1, 2, 3);
-        for (int i = 0; i < 200; i++) {
-            outcome(x::answers);
-            outcome(x::ways);
+        for (int question = 0; question < 6; question++) {
+            askAll(x);
+            x.clear();
         }
-        due("places kept after many calls", before, () -> placesOf(x));
+    }
+
+    private static void askAll(JoinedLeaves x) {
+        for (int i = 0; i < 6; i++) {
+            x.atom(i, i, i + 1, i + 2);
+            x.parent(i);
+            x.turn(i);
+            x.live(i);
+        }
+        for (int i = 0; i < 4; i++) {
+            x.head(2 * i + 1);
+            x.answer(0, i);
+        }
+        x.tree();
+        x.ways();
+        x.answers();
     }
 
     /** The fields and elements of an object and of all that it refers to. */
