@@ -63,6 +63,7 @@ public final class PromisesEdgeTest extends CallTest {
         theMostWays();
         waysOfNoTree();
         liveFromNoneToAll();
+        eachRowOfAFullRelationIsLiveOrNot();
         liveOfNoSuchAtom();
         liveOfNoTree();
     }
@@ -590,6 +591,37 @@ public final class PromisesEdgeTest extends CallTest {
             fill(x, 1, i, 0, 0);
             due("live(0) of " + i, i + 1, () -> x.live(0));
             due("live(1) of " + i, i + 1, () -> x.live(1));
+        }
+    }
+
+    private static void eachRowOfAFullRelationIsLiveOrNot() {
+        for (int i = 0; i < 12; i++) {
+            int value = i;
+            JoinedLeaves x = withRelations(1, 1);
+            count(x, 0, 12);
+            fill(x, 1, value, 0, 0);
+            dueMeeting("row " + i + " alone is live", x, 1, value);
+            count(x, 1, value);
+            for (int after = value + 1; after < 12; after++) {
+                fill(x, 1, after, 0, 0);
+            }
+            due("the row that was alone", true, () -> x.drop(1, value, 0, 0));
+            dueMeeting("row " + i + " alone is not live", x, 11, value == 11 ? 10 : 11);
+        }
+    }
+
+    /** Joins relations 0 and 1, first with the one and then with the other as the root. */
+    private static void dueMeeting(String name, JoinedLeaves x, int met, int last) {
+        for (int i = 0; i < 2; i++) {
+            x.clear();
+            x.atom(i, 0, 0, 0);
+            x.atom(1 - i, 0, 0, 0);
+            x.head(0);
+            due(name + ": ways()", (long) met, x::ways);
+            due(name + ": live(0)", met, () -> x.live(0));
+            due(name + ": live(1)", met, () -> x.live(1));
+            due(name + ": answers()", met, x::answers);
+            due(name + ": the last answer", last, () -> x.answer(met - 1, 0));
         }
     }
 

@@ -20,6 +20,7 @@ public final class PromisesTest extends CallTest {
         answer();
         answerOrderFollowsTheHead();
         answersOfManyWays();
+        joinsWhereAtom0IsNotHungFirst();
         objectsAreApart();
         end("all promises hold");
     }
@@ -378,6 +379,30 @@ public final class PromisesTest extends CallTest {
         due("many ways", 3L * 12 * 12 * 12 * 12, x::ways);
         heads(x, 5);
         dueAnswers("few answers", x, 1, "1", "3");
+    }
+
+    private static void joinsWhereAtom0IsNotHungFirst() {
+        JoinedLeaves x = withRelations(2, 3);
+        fill(x, 0, 1, 2, 0, 2, 3, 0, 3, 4, 0, 3, 1, 0, 5, 5, 0);
+        x.atom(0, 1, 2, 0);
+        x.atom(0, 0, 1, 0);
+        x.atom(0, 2, 3, 0);
+        dueHanging("the middle first", x, true, new int[] {2, 0, -1}, new int[] {1, 0, -1});
+        due("three steps, ways()", 5L, x::ways);
+        due("three steps, live", "445", () -> "" + x.live(0) + x.live(1) + x.live(2));
+        heads(x, 0, 3);
+        dueAnswers("three steps", x, 2, "11", "14", "22", "33", "55");
+        x.clear();
+        fill(x, 1, 1, 2, 3, 3, 3, 5, 4, 5, 5);
+        x.atom(1, 0, 1, 2);
+        x.atom(0, 0, 5, 0);
+        x.atom(0, 1, 6, 0);
+        x.atom(0, 2, 7, 0);
+        dueHanging("a star", x, true, new int[] {3, 0, 0, -1}, new int[] {2, 0, 1, -1});
+        due("a star, ways()", 6L, x::ways);
+        due("a star, live", "2333", () -> "" + x.live(0) + x.live(1) + x.live(2) + x.live(3));
+        heads(x, 7, 5);
+        dueAnswers("a star", x, 2, "12", "42", "51", "54");
     }
 
     private static void objectsAreApart() {

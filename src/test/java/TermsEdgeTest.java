@@ -24,6 +24,7 @@ public final class TermsEdgeTest extends CallTest {
         theSameVariableMoreThanOnce();
         theSameVariableMoreThanOnceIsShared();
         theSameVariableMoreThanOnceInAHungAtom();
+        theSameVariableMoreThanOnceInTheRoot();
         withoutAtomsThereIsOneWay();
         eachRowIsOneAnswerHoweverManyWays();
         aRowIsLiveForOneAtomAndNotForAnother();
@@ -354,6 +355,20 @@ public final class TermsEdgeTest extends CallTest {
         x.drop(0, 4, 4, 5);
         due("ways without the row that fits", 0L, x::ways);
         due("live(1) without the row that fits", 0, () -> x.live(1));
+    }
+
+    private static void theSameVariableMoreThanOnceInTheRoot() {
+        JoinedLeaves x = withRelations(2, 1);
+        fill(x, 0, 1, 2, 0, 3, 3, 0, 4, 4, 0, 5, 3, 0);
+        fill(x, 1, 3, 0, 0);
+        x.atom(1, 0, 0, 0);
+        x.atom(0, 0, 0, 0);
+        dueHanging("with repeats", x, true, new int[] {1, -1}, new int[] {0, -1});
+        due("ways beside rows that do not fit", 1L, x::ways);
+        due("live(1) beside rows that do not fit", 1, () -> x.live(1));
+        x.drop(0, 3, 3, 0);
+        due("ways without the row that fits", 0L, x::ways);
+        due("live(0) without the row that fits", 0, () -> x.live(0));
     }
 
     // "(Without atoms there is one way.) An ANSWER is a row [..]; each row is one answer, however
